@@ -7,6 +7,7 @@ import java.util.Random;
 public final class ModelTest {
     private static final int RUNS = 400;
     private static final int CALLS = 400;
+    private static final int MANY_PAGES = 15;
 
     private final Check check = new Check();
     private int givenUp = 0;
@@ -26,7 +27,7 @@ public final class ModelTest {
 
     private void run(int run) {
         Random draw = new Random(1000 + run);
-        int pages = run % 4 == 0 ? 4 + draw.nextInt(61) : 4 + draw.nextInt(9);
+        int pages = run % 4 == 0 ? 16 + draw.nextInt(49) : 4 + draw.nextInt(9);
         int words = run % 4 == 1 ? 8 + draw.nextInt(57) : 8 + draw.nextInt(9);
         LooseHeap heap = new LooseHeap();
         heap.format(pages, words);
@@ -34,7 +35,8 @@ public final class ModelTest {
         int rootsInUse = 2 + draw.nextInt(31);
         int looseShare = draw.nextInt(3);
         for (int call = 0; call < CALLS; call++) {
-            String name = "run " + run + " call " + call + " " + one(draw, heap, model, rootsInUse, looseShare);
+            String name = "run " + run + " call " + call + " "
+                    + one(draw, heap, model, rootsInUse, looseShare);
             String got = Picture.of(heap);
             String due = model.picture();
             if (!got.equals(due)) {
@@ -82,17 +84,36 @@ public final class ModelTest {
         } else if (kind < 18) {
             return take(draw, heap, model, r);
         }
+        if (kind < 19 && model.pages > MANY_PAGES) {
+            return dropMost(draw, heap, model);
+        }
         int due = model.collect();
         givenUp += due == Model.NONE ? 1 : 0;
         check.same("collect()", heap.collect(), due);
         return "collect()";
     }
 
+    // What is left lies far apart and is pinned there.
+    private String dropMost(Random draw, LooseHeap heap, Model model) {
+        for (int r = 0; r < 32; r++) {
+            boolean kept = draw.nextInt(4) == 0;
+            int v = kept ? Model.addressOf(model.exact[r]) : -1;
+            check.same("loose(" + r + ", " + v + ")", heap.loose(r, v), model.loose[r]);
+            model.loose[r] = v;
+            if (!kept) {
+                heap.drop(r);
+                model.exact[r] = null;
+            }
+        }
+        return "drop() of most roots";
+    }
+
     private String make(Random draw, LooseHeap heap, Model model, int r) {
         int refs = draw.nextInt(draw.nextInt(4) == 0 ? 32 : 4);
         int data = draw.nextInt(draw.nextInt(8) == 0 ? 60 : 6);
-        if (draw.nextInt(100) == 0) {
-            data = 200 - draw.nextInt(40);
+        boolean manyPages = model.pages > MANY_PAGES;
+        if (draw.nextInt(manyPages ? 3 : 100) == 0) {
+            data = 200 - draw.nextInt(manyPages ? 150 : 40);
         }
         String name = "make(" + r + ", " + refs + ", " + data + ")";
         boolean due = model.make(r, refs, data);

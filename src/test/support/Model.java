@@ -134,7 +134,7 @@ final class Model {
 
     int collect() {
         Set<Integer> usedAhead = used();
-        Set<Integer> hit = hits(usedAhead);
+        Set<Integer> hit = hits();
         List<Thing> row = new ArrayList<>();
         Map<Thing, Integer> places = new HashMap<>();
         List<Thing> byAddress = new ArrayList<>(things);
@@ -177,7 +177,7 @@ final class Model {
         return used().size();
     }
 
-    private Set<Integer> hits(Set<Integer> usedAhead) {
+    private Set<Integer> hits() {
         Set<Integer> hit = new TreeSet<>();
         for (int v : loose) {
             for (Thing thing : things) {
