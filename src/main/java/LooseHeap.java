@@ -501,7 +501,9 @@ public final class LooseHeap {
         }
 
         private void freePage(int p) {
-            Arrays.fill(memory, addressOf(p, 0), addressOf(p, words), 0);
+            for (int k = 0; k < words; k++) {
+                memory[addressOf(p, k)] = 0;
+            }
             kinds[p] = FREE;
             filled[p] = 0;
             beginnings[p] = 0L;
