@@ -24,12 +24,6 @@ public final class CollectTest {
         CHECK.end();
     }
 
-    private static LooseHeap heap(int pages, int words) {
-        LooseHeap heap = new LooseHeap();
-        heap.format(pages, words);
-        return heap;
-    }
-
     private static void latest(String name, LooseHeap heap, int... due) {
         for (int k = 0; k < due.length; k++) {
             CHECK.same(name + " look(" + (8 + k) + ")", heap.look(8 + k), due[k]);
@@ -37,7 +31,7 @@ public final class CollectTest {
     }
 
     private static void emptyHeap() {
-        LooseHeap heap = heap(4, 8);
+        LooseHeap heap = Heaps.of(4, 8);
         heap.loose(0, 0);
         CHECK.same("collect()", heap.collect(), 0);
         CHECK.same("look(6)", heap.look(6), 1);
@@ -45,7 +39,7 @@ public final class CollectTest {
     }
 
     private static void orderOfTheRow() {
-        LooseHeap heap = heap(8, 32);
+        LooseHeap heap = Heaps.of(8, 32);
         heap.make(5, 2, 1);
         heap.make(6, 1, 2);
         heap.make(7, 0, 3);
@@ -67,7 +61,7 @@ public final class CollectTest {
     }
 
     private static void refsAreToldAnew() {
-        LooseHeap heap = heap(8, 8);
+        LooseHeap heap = Heaps.of(8, 8);
         heap.make(0, 3, 0);
         heap.make(1, 0, 3);
         heap.make(2, 2, 5);
@@ -94,7 +88,7 @@ public final class CollectTest {
     }
 
     private static void ringsAndSelves() {
-        LooseHeap heap = heap(8, 8);
+        LooseHeap heap = Heaps.of(8, 8);
         heap.make(0, 1, 1);
         heap.make(1, 2, 0);
         heap.link(0, 0, 1);
@@ -115,7 +109,7 @@ public final class CollectTest {
         int[] values = {7, 8, 15, 16, -1, Integer.MIN_VALUE, 64, 8 + 64, Integer.MAX_VALUE};
         int[] hits = {0, 1, 1, 0, 0, 0, 0, 0, 0};
         for (int k = 0; k < values.length; k++) {
-            LooseHeap heap = heap(8, 8);
+            LooseHeap heap = Heaps.of(8, 8);
             heap.make(0, 0, 6);
             heap.make(1, 0, 1);
             heap.drop(0);
@@ -130,7 +124,7 @@ public final class CollectTest {
     }
 
     private static void hitKeepsUnreached() {
-        LooseHeap heap = heap(8, 8);
+        LooseHeap heap = Heaps.of(8, 8);
         heap.make(0, 1, 0);
         heap.make(1, 0, 0);
         heap.make(2, 0, 4);
@@ -154,7 +148,7 @@ public final class CollectTest {
     }
 
     private static void hitOrderComesFirst() {
-        LooseHeap heap = heap(12, 8);
+        LooseHeap heap = Heaps.of(12, 8);
         heap.make(0, 0, 2);
         heap.make(1, 0, 3);
         heap.make(2, 1, 6);
@@ -176,7 +170,7 @@ public final class CollectTest {
     }
 
     private static void longStays() {
-        LooseHeap heap = heap(12, 8);
+        LooseHeap heap = Heaps.of(12, 8);
         heap.make(0, 0, 5);
         heap.make(1, 1, 10);
         heap.link(1, 0, 0);
@@ -192,7 +186,7 @@ public final class CollectTest {
     }
 
     private static void longIsHitAsAWhole() {
-        LooseHeap heap = heap(16, 8);
+        LooseHeap heap = Heaps.of(16, 8);
         heap.make(0, 0, 15);
         heap.make(1, 1, 20);
         heap.make(2, 0, 8);
@@ -218,7 +212,7 @@ public final class CollectTest {
     }
 
     private static void unreachedLongIsFreed() {
-        LooseHeap heap = heap(12, 8);
+        LooseHeap heap = Heaps.of(12, 8);
         heap.make(0, 1, 20);
         heap.set(0, 19, 5);
         heap.make(1, 0, 8);
@@ -233,7 +227,7 @@ public final class CollectTest {
     }
 
     private static void dataIsNoAddress() {
-        LooseHeap heap = heap(8, 8);
+        LooseHeap heap = Heaps.of(8, 8);
         heap.make(0, 0, 2);
         heap.make(1, 0, 2);
         heap.set(0, 0, 3);
@@ -245,7 +239,7 @@ public final class CollectTest {
     }
 
     private static void targetsAreFreeAhead() {
-        LooseHeap heap = heap(10, 8);
+        LooseHeap heap = Heaps.of(10, 8);
         for (int r = 0; r < 5; r++) {
             heap.make(r, 0, 4);
         }
@@ -263,7 +257,7 @@ public final class CollectTest {
     }
 
     private static void openPage() {
-        LooseHeap heap = heap(8, 8);
+        LooseHeap heap = Heaps.of(8, 8);
         heap.make(0, 0, 2);
         heap.loose(0, 0);
         heap.collect();
@@ -276,7 +270,7 @@ public final class CollectTest {
         heap.make(2, 0, 0);
         CHECK.same("root(2)", heap.root(2), 18);
         // Only the latest TARGET takes more, even if an earlier one had room.
-        LooseHeap more = heap(16, 8);
+        LooseHeap more = Heaps.of(16, 8);
         more.make(0, 0, 2);
         more.make(1, 0, 6);
         more.make(2, 0, 2);
@@ -286,7 +280,7 @@ public final class CollectTest {
     }
 
     private static void givenUp() {
-        LooseHeap heap = heap(4, 8);
+        LooseHeap heap = Heaps.of(4, 8);
         heap.make(0, 1, 3);
         heap.make(2, 0, 2);
         heap.loose(4, 1);
@@ -310,7 +304,7 @@ public final class CollectTest {
     }
 
     private static void freedWordsAreZero() {
-        LooseHeap heap = heap(4, 8);
+        LooseHeap heap = Heaps.of(4, 8);
         heap.make(0, 2, 5);
         for (int i = 0; i < 5; i++) {
             heap.set(0, i, -1 - i);

@@ -25,14 +25,8 @@ public final class MakeTest {
         CHECK.end();
     }
 
-    private static LooseHeap heap(int pages, int words) {
-        LooseHeap heap = new LooseHeap();
-        heap.format(pages, words);
-        return heap;
-    }
-
     private static void newObjectsWords() {
-        LooseHeap heap = heap(8, 16);
+        LooseHeap heap = Heaps.of(8, 16);
         CHECK.yes("make(3, 2, 3)", heap.make(3, 2, 3));
         CHECK.same("root(3)", heap.root(3), 0);
         int[] due = {515, -1, -1, 0, 0, 0, 0};
@@ -44,7 +38,7 @@ public final class MakeTest {
     }
 
     private static void smallOnesLieWithoutGaps() {
-        LooseHeap heap = heap(8, 8);
+        LooseHeap heap = Heaps.of(8, 8);
         heap.make(0, 0, 2);
         heap.make(1, 1, 1);
         CHECK.same("root(1)", heap.root(1), 3);
@@ -57,7 +51,7 @@ public final class MakeTest {
     }
 
     private static void wholePageIsSmall() {
-        LooseHeap heap = heap(8, 8);
+        LooseHeap heap = Heaps.of(8, 8);
         heap.make(0, 3, 4);
         CHECK.same("page(0, 0)", heap.page(0, 0), 1);
         CHECK.same("look(3)", heap.look(3), 0);
@@ -66,7 +60,7 @@ public final class MakeTest {
     }
 
     private static void oneWordMoreIsLong() {
-        LooseHeap heap = heap(8, 8);
+        LooseHeap heap = Heaps.of(8, 8);
         heap.make(0, 3, 5);
         CHECK.same("page(0, 0)", heap.page(0, 0), 2);
         CHECK.same("page(1, 0)", heap.page(1, 0), 3);
@@ -76,7 +70,7 @@ public final class MakeTest {
     }
 
     private static void largestObject() {
-        LooseHeap heap = heap(64, 8);
+        LooseHeap heap = Heaps.of(64, 8);
         CHECK.yes("make(31, 31, 200)", heap.make(31, 31, 200));
         CHECK.same("word(0)", heap.word(0), 256 * 31 + 200);
         CHECK.same("word(31)", heap.word(31), -1);
@@ -88,7 +82,7 @@ public final class MakeTest {
 
     // Its head is 0 and looks as if nothing were there.
     private static void emptyObject() {
-        LooseHeap heap = heap(4, 8);
+        LooseHeap heap = Heaps.of(4, 8);
         for (int k = 0; k < 16; k++) {
             CHECK.yes("make(" + k + ", 0, 0)", heap.make(k, 0, 0));
             CHECK.same("root(" + k + ")", heap.root(k), k);
@@ -100,7 +94,7 @@ public final class MakeTest {
     }
 
     private static void longLeavesOpenPage() {
-        LooseHeap heap = heap(10, 8);
+        LooseHeap heap = Heaps.of(10, 8);
         heap.make(0, 0, 1);
         heap.make(1, 0, 8);
         CHECK.same("root(1)", heap.root(1), 8);
@@ -110,7 +104,7 @@ public final class MakeTest {
     }
 
     private static void longTakesFirstRow() {
-        LooseHeap heap = heap(20, 8);
+        LooseHeap heap = Heaps.of(20, 8);
         heap.make(0, 0, 8);
         heap.make(1, 0, 7);
         heap.make(2, 0, 8);
@@ -129,7 +123,7 @@ public final class MakeTest {
     }
 
     private static void halfIsCut() {
-        LooseHeap heap = heap(7, 8);
+        LooseHeap heap = Heaps.of(7, 8);
         CHECK.yes("first", heap.make(0, 0, 7));
         CHECK.yes("second", heap.make(1, 0, 7));
         CHECK.yes("third", heap.make(2, 0, 7));
@@ -137,15 +131,15 @@ public final class MakeTest {
         CHECK.no("fourth of seven", heap.make(3, 0, 7));
         CHECK.same("a collection", heap.look(6), 1);
         CHECK.same("root(3)", heap.root(3), -1);
-        LooseHeap wide = heap(8, 8);
+        LooseHeap wide = Heaps.of(8, 8);
         CHECK.yes("4 PAGES of 8", wide.make(0, 0, 31));
         CHECK.no("one more", wide.make(1, 0, 0));
-        LooseHeap other = heap(8, 8);
+        LooseHeap other = Heaps.of(8, 8);
         CHECK.no("5 PAGES of 8", other.make(0, 0, 32));
     }
 
     private static void tooLongEver() {
-        LooseHeap heap = heap(4, 8);
+        LooseHeap heap = Heaps.of(4, 8);
         heap.make(0, 0, 3);
         CHECK.no("make(1, 31, 200)", heap.make(1, 31, 200));
         CHECK.same("there was a collection all the same", heap.look(6), 1);
@@ -154,7 +148,7 @@ public final class MakeTest {
     }
 
     private static void openPageIsAskedBehindCollection() {
-        LooseHeap heap = heap(4, 8);
+        LooseHeap heap = Heaps.of(4, 8);
         heap.make(0, 0, 4);
         heap.make(1, 0, 4);
         heap.drop(0);
@@ -176,7 +170,7 @@ public final class MakeTest {
 
     // A collection may leave more than half of the PAGES USED; only taking a PAGE is barred then.
     private static void openPageIsAskedOverHalf() {
-        LooseHeap heap = heap(5, 8);
+        LooseHeap heap = Heaps.of(5, 8);
         heap.make(0, 0, 4);
         heap.make(2, 0, 2);
         heap.make(1, 0, 4);
@@ -191,7 +185,7 @@ public final class MakeTest {
     }
 
     private static void rootKeepsItsObject() {
-        LooseHeap heap = heap(4, 8);
+        LooseHeap heap = Heaps.of(4, 8);
         heap.make(0, 0, 7);
         heap.make(1, 0, 7);
         heap.set(0, 3, 99);
@@ -205,7 +199,7 @@ public final class MakeTest {
     }
 
     private static void givenUpMakesNothing() {
-        LooseHeap heap = heap(4, 8);
+        LooseHeap heap = Heaps.of(4, 8);
         heap.make(0, 0, 4);
         heap.make(2, 0, 2);
         heap.make(1, 0, 4);
@@ -220,7 +214,7 @@ public final class MakeTest {
 
     // Enough PAGES are FREE for a LONG one, but not behind one another.
     private static void collectionForWantOfARow() {
-        LooseHeap heap = heap(16, 8);
+        LooseHeap heap = Heaps.of(16, 8);
         leaveFourNineThirteen(heap);
         CHECK.yes("4 PAGES find a row", heap.make(10, 0, 31));
         CHECK.same("root(10)", heap.root(10), 0);
@@ -238,16 +232,16 @@ public final class MakeTest {
     private static void leaveFourNineThirteen(LooseHeap heap) {
         makeWholePages(heap, 8);
         heap.loose(0, 32);
-        dropBelow(heap, 6);
+        Heaps.dropBelow(heap, 6);
         CHECK.same("PAGES 6 and 7 come to 8 and 9", heap.collect(), 3);
         heap.loose(1, 79);
-        dropBelow(heap, 8);
+        Heaps.dropBelow(heap, 8);
         CHECK.same("4 and 9 are left", heap.collect(), 2);
         makeWholePages(heap, 6);
         CHECK.same("six come to 7, 8 and 10 to 13", heap.collect(), 8);
         CHECK.same("root(5)", heap.root(5), 104);
         heap.loose(2, 104);
-        dropBelow(heap, 8);
+        Heaps.dropBelow(heap, 8);
         CHECK.same("4, 9 and 13 are left", heap.collect(), 3);
     }
 
@@ -257,18 +251,12 @@ public final class MakeTest {
         }
     }
 
-    private static void dropBelow(LooseHeap heap, int end) {
-        for (int r = 0; r < end; r++) {
-            heap.drop(r);
-        }
-    }
-
     private static void wrongArguments() {
         int[][] wrong = {{-1, 0, 0}, {32, 0, 0}, {0, -1, 0}, {0, 32, 0}, {0, 0, -1}, {0, 0, 201},
             {Integer.MIN_VALUE, 0, 0}, {Integer.MAX_VALUE, 0, 0}, {0, Integer.MAX_VALUE, 0},
             {0, Integer.MIN_VALUE, 0}, {0, 0, Integer.MAX_VALUE}, {0, 0, Integer.MIN_VALUE}};
         for (int[] w : wrong) {
-            LooseHeap heap = heap(4, 8);
+            LooseHeap heap = Heaps.of(4, 8);
             heap.make(0, 1, 1);
             CHECK.refused("make(" + w[0] + ", " + w[1] + ", " + w[2] + ")", heap,
                     IllegalArgumentException.class, () -> heap.make(w[0], w[1], w[2]));

@@ -15,6 +15,7 @@ public final class ModelTest {
     private int longHits = 0;
     private int smallHits = 0;
     private int unmade = 0;
+    private final int[] refusals = new int[4];
 
     public static void main(String[] args) {
         ModelTest test = new ModelTest();
@@ -60,10 +61,12 @@ public final class ModelTest {
     }
 
     private String one(Random draw, LooseHeap heap, Model model, int roots, int looseShare) {
-        int kind = draw.nextInt(20);
+        int kind = draw.nextInt(21);
         int r = draw.nextInt(roots);
         int other = draw.nextInt(roots);
-        if (kind < 7) {
+        if (kind == 20) {
+            return perhapsRefused(draw, heap, model);
+        } else if (kind < 7) {
             return make(draw, heap, model, r);
         } else if (kind < 8) {
             heap.copy(r, other);
@@ -185,6 +188,46 @@ public final class ModelTest {
         return name;
     }
 
+    // A call with arguments of which some may be wrong; it is left out if none is.
+    private String perhapsRefused(Random draw, LooseHeap heap, Model model) {
+        int r = draw.nextInt(40) - 4;
+        int other = draw.nextInt(40) - 4;
+        boolean follows = draw.nextBoolean();
+        boolean sets = draw.nextInt(3) == 0;
+        Model.Thing thing = r < 0 || r > 31 ? null : model.exact[r];
+        int fields = thing == null ? 0 : sets ? thing.data.length : thing.refs.length;
+        int i = draw.nextInt(3) == 0 ? draw.nextInt() : draw.nextInt(fields + 3) - 1;
+        int due = r < 0 || r > 31 || !sets && (other < 0 || other > 31) ? 1
+                : thing == null ? 2 : i < 0 || i >= fields ? 3 : 0;
+        refusals[due]++;
+        String name = (sets ? "set(" : follows ? "follow(" : "link(") + r + ", " + i + ", " + other + ")";
+        if (due != 0) {
+            check.same(name, refusal(() -> {
+                if (sets) {
+                    heap.set(r, i, other);
+                } else if (follows) {
+                    heap.follow(r, i, other);
+                } else {
+                    heap.link(r, i, other);
+                }
+            }), due);
+        }
+        return name;
+    }
+
+    private static int refusal(Runnable call) {
+        try {
+            call.run();
+            return 0;
+        } catch (IllegalArgumentException e) {
+            return 1;
+        } catch (IllegalStateException e) {
+            return 2;
+        } catch (java.util.NoSuchElementException e) {
+            return 3;
+        }
+    }
+
     // Runs that never come to the rare states would prove little.
     private void wasWorthIt() {
         System.out.println("given up " + givenUp + ", over half " + overHalf + ", long hits "
@@ -194,5 +237,8 @@ public final class ModelTest {
         check.yes("some long objects were hit", longHits > 0);
         check.yes("some pages of small objects were hit", smallHits > 0);
         check.yes("some objects could not be made", unmade > 0);
+        for (int k = 1; k < refusals.length; k++) {
+            check.yes("some calls were refused with exception " + k, refusals[k] > 0);
+        }
     }
 }
