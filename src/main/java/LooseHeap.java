@@ -690,7 +690,7 @@ public final class LooseHeap {
 
         /** Brings what is told somewhere into the row: false if there is no page left for it. */
         private boolean reach(int told) {
-            if (told == NONE || newAddresses[told] != NONE) {
+            if (!space.beginsAt(told) || newAddresses[told] != NONE) {
                 return true;
             }
             if (space.isLong(told)) {
@@ -742,19 +742,19 @@ public final class LooseHeap {
         private void tellNewRefs(int address) {
             int refs = space.refsOf(address);
             for (int i = 0; i < refs; i++) {
-                int told = space.ref(address, i);
-                if (told != NONE) {
-                    space.setRef(address, i, newAddresses[told]);
-                }
+                space.setRef(address, i, newAddressOf(space.ref(address, i)));
             }
         }
 
         private void tellNewAddresses(int[] exactRoots) {
             for (int r = 0; r < exactRoots.length; r++) {
-                if (exactRoots[r] != NONE) {
-                    exactRoots[r] = newAddresses[exactRoots[r]];
-                }
+                exactRoots[r] = newAddressOf(exactRoots[r]);
             }
+        }
+
+        // All that is told by a root or by an object of the row is in the row, or is NONE.
+        private int newAddressOf(int told) {
+            return space.isAddress(told) ? newAddresses[told] : NONE;
         }
 
         private void finish() {
